@@ -1,0 +1,99 @@
+public final class Promise4ApplyTest {
+    private static final int KINDS = 5;
+    private static final int[] NO_KINDS = {-1, 5, 6, 10, 127, Integer.MIN_VALUE, Integer.MAX_VALUE};
+
+    public static void main(String[] args) {
+        knownAnswers();
+        everyRangeIsTight();
+        everyPlacingOfRegisters();
+        wrongRegistersAreRefused();
+        wrongKindsAreRefused();
+        Check.end();
+    }
+
+    /** Worked out by hand from the document. Each row: kind, a, and the range due. */
+    private static void knownAnswers() {
+        int[][] rows = {
+            {0, 10, 20, 107, 117}, {0, 0, 0, 127, 127}, {0, 127, 127, 0, 0}, {0, 0, 127, 0, 127},
+            {1, 10, 20, 1, 4}, {1, 0, 0, 0, 0}, {1, 127, 127, 7, 7}, {1, 64, 64, 1, 1}, {1, 0, 127, 0, 7},
+            {2, 1, 1, 64, 64}, {2, 64, 64, 1, 1}, {2, 8, 8, 8, 8}, {2, 3, 3, 96, 96}, {2, 0, 1, 0, 64}, {2, 1, 4, 16, 96},
+            {3, 0, 0, 0, 0}, {3, 3, 4, 1, 2}, {3, 120, 121, 10, 11}, {3, 127, 127, 11, 11}, {3, 99, 100, 9, 10}, {3, 0, 127, 0, 11},
+            {4, 10, 20, 20, 40}, {4, 63, 64, 0, 126}, {4, 64, 65, 0, 2}, {4, 127, 127, 126, 126}, {4, 64, 64, 0, 0},
+        };
+        for (int[] row : rows) {
+            TightRange t = new TightRange();
+            t.set(0, row[1], row[2]);
+            String call = "apply of kind " + row[0] + " of (" + row[1] + ", " + row[2] + ")";
+            Check.due(call, t.apply(2, row[0], 0), 0);
+            Check.dueRange(call, t, 2, row[3], row[4]);
+        }
+    }
+
+    private static void everyRangeIsTight() {
+        for (int kind = 0; kind < KINDS; kind++) {
+            for (int low = 0; low <= 127; low++) {
+                int least = 128;
+                int greatest = -1;
+                for (int high = low; high <= 127; high++) {
+                    least = Math.min(least, resultOf(kind, high));
+                    greatest = Math.max(greatest, resultOf(kind, high));
+                    TightRange t = new TightRange();
+                    t.set(5, low, high);
+                    String call = "apply of kind " + kind + " of (" + low + ", " + high + ")";
+                    Check.due(call, t.apply(0, kind, 5), 0);
+                    Check.dueRange(call, t, 0, least, greatest);
+                    Check.dueRange(call, t, 5, low, high);
+                    Check.due(call + " into itself", t.apply(5, kind, 5), 0);
+                    Check.dueRange(call + " into itself", t, 5, least, greatest);
+                }
+            }
+        }
+    }
+
+    private static void everyPlacingOfRegisters() {
+        for (int dst = 0; dst < Check.REGISTERS; dst++) {
+            for (int a = 0; a < Check.REGISTERS; a++) {
+                TightRange t = Check.sixRanges();
+                String call = "apply(" + dst + ", 0, " + a + ")";
+                Check.due(call, t.apply(dst, 0, a), 0);
+                Check.dueRange(call, t, dst, 127 - 10 * a - 5, 127 - 10 * a);
+                Check.dueSixRangesBut(call, t, dst);
+            }
+        }
+    }
+
+    private static void wrongRegistersAreRefused() {
+        for (int wrong : Check.NO_REGISTERS) {
+            for (int kind = 0; kind < KINDS; kind++) {
+                TightRange t = Check.sixRanges();
+                String call = "apply of kind " + kind + " with register " + wrong;
+                Check.due(call + " as dst", t.apply(wrong, kind, 0), -1);
+                Check.due(call + " as a", t.apply(0, kind, wrong), -1);
+                Check.due(call + " twice", t.apply(wrong, kind, wrong), -1);
+                Check.dueSixRanges(call, t);
+            }
+        }
+    }
+
+    private static void wrongKindsAreRefused() {
+        for (int kind : NO_KINDS) {
+            TightRange t = Check.sixRanges();
+            String call = "apply of kind " + kind;
+            Check.due(call, t.apply(1, kind, 0), -1);
+            Check.due(call + " and a wrong register", t.apply(6, kind, 0), -1);
+            Check.dueSixRanges(call, t);
+        }
+    }
+
+    /** Where it can be, by the Java library instead of the class's own way. */
+    private static int resultOf(int kind, int x) {
+        switch (kind) {
+            case 0: return x ^ 127;
+            case 1: return Integer.bitCount(x);
+            case 2: return Integer.reverse(x) >>> 25;
+            case 3: return (int) Math.floor(Math.sqrt(x));
+            case 4: return x < 64 ? x + x : x + x - 128;
+            default: throw new IllegalArgumentException("kind " + kind);
+        }
+    }
+}

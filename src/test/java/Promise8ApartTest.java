@@ -1,0 +1,73 @@
+public final class Promise8ApartTest {
+    public static void main(String[] args) {
+        knownAnswers();
+        edgeRanges();
+        oneRegister();
+        wrongRegistersAreRefused();
+        askingChangesNothing();
+        Check.end();
+    }
+
+    /** Each row: a, b, and the count due. */
+    private static void knownAnswers() {
+        int[][] rows = {
+            {0, 127, 0, 127, 2187}, {0, 0, 0, 0, 1}, {0, 0, 0, 127, 128}, {0, 127, 0, 0, 128},
+            {5, 5, 0, 127, 32}, {127, 127, 0, 127, 1}, {127, 127, 1, 127, 0}, {1, 1, 2, 2, 1},
+            {1, 1, 3, 3, 0}, {1, 3, 1, 3, 2}, {0, 63, 64, 64, 64}, {10, 20, 100, 110, 33}, {21, 42, 43, 84, 140},
+        };
+        for (int[] row : rows) {
+            compare(row[0], row[1], row[2], row[3], row[4]);
+        }
+    }
+
+    private static void edgeRanges() {
+        for (int[] a : Check.RANGES) {
+            for (int[] b : Check.RANGES) {
+                int want = 0;
+                for (int x = a[0]; x <= a[1]; x++) {
+                    for (int y = b[0]; y <= b[1]; y++) {
+                        // No bit is in both just if nothing is carried in the sum.
+                        want += x + y == (x | y) ? 1 : 0;
+                    }
+                }
+                compare(a[0], a[1], b[0], b[1], want);
+            }
+        }
+    }
+
+    private static void oneRegister() {
+        TightRange t = new TightRange();
+        Check.due("apart(3, 3) of (0, 127)", t.apart(3, 3), 2187);
+        t.set(3, 60, 70);
+        Check.due("apart(3, 3) of (60, 70)", t.apart(3, 3), 18);
+        t.set(3, 120, 127);
+        Check.due("apart(3, 3) of (120, 127)", t.apart(3, 3), 0);
+    }
+
+    private static void wrongRegistersAreRefused() {
+        for (int wrong : Check.NO_REGISTERS) {
+            TightRange t = Check.sixRanges();
+            Check.due("apart(" + wrong + ", 0)", t.apart(wrong, 0), -1);
+            Check.due("apart(0, " + wrong + ")", t.apart(0, wrong), -1);
+            Check.due("apart(" + wrong + ", " + wrong + ")", t.apart(wrong, wrong), -1);
+            Check.dueSixRanges("apart with register " + wrong, t);
+        }
+    }
+
+    private static void askingChangesNothing() {
+        TightRange t = Check.sixRanges();
+        for (int a = 0; a < Check.REGISTERS; a++) {
+            for (int b = 0; b < Check.REGISTERS; b++) {
+                t.apart(a, b);
+            }
+        }
+        Check.dueSixRanges("apart", t);
+    }
+
+    private static void compare(int aLow, int aHigh, int bLow, int bHigh, int want) {
+        TightRange t = new TightRange();
+        t.set(5, aLow, aHigh);
+        t.set(0, bLow, bHigh);
+        Check.due("apart of (" + aLow + ", " + aHigh + ") and (" + bLow + ", " + bHigh + ")", t.apart(5, 0), want);
+    }
+}
