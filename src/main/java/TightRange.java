@@ -44,7 +44,6 @@ public final class TightRange {
             lows[register] = 0;
             highs[register] = GREATEST_NUMBER;
         }
-        startGathering();
     }
 
     public int set(int register, int low, int high) {
