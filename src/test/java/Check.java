@@ -1,7 +1,8 @@
-/** What the tests share: telling wrong answers, and looking at all registers at once. */
+/** What the tests share: telling wrong answers with their sentence, and looking at all registers at once. */
 final class Check {
     static final int REGISTERS = 6;
-    static final int[] NO_REGISTERS = {-1, 6, 7, 127, -128, Integer.MIN_VALUE, Integer.MAX_VALUE};
+    static final int[] TOO_SMALL = {-1, -2, -6, -128, Integer.MIN_VALUE};
+    static final int[] TOO_LARGE = {6, 7, 127, 128, Integer.MAX_VALUE};
 
     /** Ranges that meet every edge: single numbers, both ends, the powers of two, the whole. */
     static final int[][] RANGES = {
@@ -11,14 +12,29 @@ final class Check {
     };
 
     private static int wrong = 0;
+    private static String standsFor = "";
 
     private Check() {
     }
 
+    /**
+     * Runs one test under the words of the document that it stands for.
+     * The words are the document's own, so that they can be searched there; the case says which side of them is meant.
+     */
+    static void holds(String words, String boundaryCase, Runnable test) {
+        standsFor = "\"" + words + "\" (" + boundaryCase + "): ";
+        try {
+            test.run();
+        } catch (RuntimeException e) {
+            // Told as a wrong answer, so that the sentence stands beside it and the other tests still run.
+            fault("threw " + e);
+        }
+        standsFor = "";
+    }
+
     static void due(String call, int got, int want) {
         if (got != want) {
-            wrong++;
-            System.out.println(call + " answered " + got + ", due is " + want);
+            fault(call + " answered " + got + ", due is " + want);
         }
     }
 
@@ -29,7 +45,7 @@ final class Check {
 
     static void fault(String what) {
         wrong++;
-        System.out.println(what);
+        System.out.println(standsFor + what);
     }
 
     /** Six ranges that all differ, so that a change of any register can be seen. */

@@ -1,17 +1,16 @@
 public final class Promise3CombineTest {
     private static final int KINDS = 11;
-    private static final int[] NO_KINDS = {-1, 11, 12, 127, Integer.MIN_VALUE, Integer.MAX_VALUE};
+    private static final String TIGHTEST = "The register dst becomes the tightest range of the set of all results of x and y";
 
     public static void main(String[] args) {
-        knownAnswers();
-        everyPairOfNumbers();
-        edgeRangesAreTight();
-        strewnRangesAreTight();
-        sameRegisterIsChosenApart();
-        everyPlacingOfRegisters();
-        noResultChangesNothing();
-        wrongRegistersAreRefused();
-        wrongKindsAreRefused();
+        Check.holds(TIGHTEST, "known answers", Promise3CombineTest::knownAnswers);
+        Check.holds(TIGHTEST, "every pair of single numbers", Promise3CombineTest::everyPairOfNumbers);
+        Check.holds(TIGHTEST, "ranges at the edges", Promise3CombineTest::edgeRangesAreTight);
+        Check.holds(TIGHTEST, "strewn ranges", Promise3CombineTest::strewnRangesAreTight);
+        Check.holds(TIGHTEST, "every placing of dst, a and b, and no other register changes",
+                Promise3CombineTest::everyPlacingOfRegisters);
+        Check.holds("chosen apart, also if a = b", "one register as a and b, also as dst",
+                Promise3CombineTest::sameRegisterIsChosenApart);
         Check.end();
     }
 
@@ -120,41 +119,6 @@ public final class Promise3CombineTest {
                     }
                 }
             }
-        }
-    }
-
-    private static void noResultChangesNothing() {
-        for (int dst = 0; dst < Check.REGISTERS; dst++) {
-            TightRange t = Check.sixRanges();
-            String call = "combine(" + dst + ", 10, 4, 1)";
-            Check.due(call, t.combine(dst, 10, 4, 1), -2);
-            Check.dueSixRanges(call, t);
-        }
-    }
-
-    private static void wrongRegistersAreRefused() {
-        for (int wrong : Check.NO_REGISTERS) {
-            for (int kind = 0; kind < KINDS; kind++) {
-                TightRange t = Check.sixRanges();
-                String call = "combine of kind " + kind + " with register " + wrong;
-                // Registers 0 and 1 share no number: -1 comes before -2.
-                Check.due(call + " as dst", t.combine(wrong, kind, 0, 1), -1);
-                Check.due(call + " as a", t.combine(0, kind, wrong, 1), -1);
-                Check.due(call + " as b", t.combine(0, kind, 1, wrong), -1);
-                Check.due(call + " thrice", t.combine(wrong, kind, wrong, wrong), -1);
-                Check.dueSixRanges(call, t);
-            }
-        }
-    }
-
-    private static void wrongKindsAreRefused() {
-        for (int kind : NO_KINDS) {
-            TightRange t = Check.sixRanges();
-            String call = "combine of kind " + kind;
-            Check.due(call, t.combine(2, kind, 0, 1), -1);
-            Check.due(call + " of one register", t.combine(2, kind, 1, 1), -1);
-            Check.due(call + " and a wrong register", t.combine(6, kind, 0, 1), -1);
-            Check.dueSixRanges(call, t);
         }
     }
 

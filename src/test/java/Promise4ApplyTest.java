@@ -1,13 +1,11 @@
 public final class Promise4ApplyTest {
     private static final int KINDS = 5;
-    private static final int[] NO_KINDS = {-1, 5, 6, 10, 127, Integer.MIN_VALUE, Integer.MAX_VALUE};
+    private static final String TIGHTEST = "The register dst becomes the tightest range of the set of all results of x, where";
 
     public static void main(String[] args) {
-        knownAnswers();
-        everyRangeIsTight();
-        everyPlacingOfRegisters();
-        wrongRegistersAreRefused();
-        wrongKindsAreRefused();
+        Check.holds(TIGHTEST, "known answers", Promise4ApplyTest::knownAnswers);
+        Check.holds(TIGHTEST, "every range, also into itself", Promise4ApplyTest::everyRangeIsTight);
+        Check.holds(TIGHTEST, "every placing of dst and a, and no other register changes", Promise4ApplyTest::everyPlacingOfRegisters);
         Check.end();
     }
 
@@ -59,29 +57,6 @@ public final class Promise4ApplyTest {
                 Check.dueRange(call, t, dst, 127 - 10 * a - 5, 127 - 10 * a);
                 Check.dueSixRangesBut(call, t, dst);
             }
-        }
-    }
-
-    private static void wrongRegistersAreRefused() {
-        for (int wrong : Check.NO_REGISTERS) {
-            for (int kind = 0; kind < KINDS; kind++) {
-                TightRange t = Check.sixRanges();
-                String call = "apply of kind " + kind + " with register " + wrong;
-                Check.due(call + " as dst", t.apply(wrong, kind, 0), -1);
-                Check.due(call + " as a", t.apply(0, kind, wrong), -1);
-                Check.due(call + " twice", t.apply(wrong, kind, wrong), -1);
-                Check.dueSixRanges(call, t);
-            }
-        }
-    }
-
-    private static void wrongKindsAreRefused() {
-        for (int kind : NO_KINDS) {
-            TightRange t = Check.sixRanges();
-            String call = "apply of kind " + kind;
-            Check.due(call, t.apply(1, kind, 0), -1);
-            Check.due(call + " and a wrong register", t.apply(6, kind, 0), -1);
-            Check.dueSixRanges(call, t);
         }
     }
 

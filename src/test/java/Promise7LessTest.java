@@ -1,24 +1,33 @@
 public final class Promise7LessTest {
+    private static final String WHOLE = "1 if x < y for all numbers x that register a holds and y that register b holds"
+            + " (chosen apart), 0 if for none, 2 otherwise; -1.";
+
     public static void main(String[] args) {
-        knownAnswers();
-        edgeRanges();
-        rangesThatTouch();
-        oneRegister();
-        wrongRegistersAreRefused();
-        askingChangesNothing();
+        Check.holds("1 if x < y for all numbers x", "only just for all", () -> dueRows(1, new int[][] {
+            {10, 20, 21, 30}, {5, 5, 6, 6}, {0, 0, 1, 1}, {126, 126, 127, 127}, {0, 126, 127, 127}, {0, 0, 1, 127}, {0, 63, 64, 127},
+            {0, 0, 127, 127},
+        }));
+        Check.holds("0 if for none", "only just for none, since x = y is not less", () -> dueRows(0, new int[][] {
+            {20, 30, 10, 20}, {5, 5, 5, 5}, {6, 6, 5, 5}, {0, 0, 0, 0}, {127, 127, 127, 127}, {127, 127, 0, 127}, {0, 127, 0, 0},
+            {64, 127, 0, 64}, {127, 127, 0, 0},
+        }));
+        Check.holds("2 otherwise", "for one pair alone, and for all pairs but one", () -> dueRows(2, new int[][] {
+            {20, 30, 10, 21}, {10, 20, 20, 30}, {0, 0, 0, 127}, {0, 127, 127, 127}, {126, 127, 0, 127}, {0, 127, 0, 1}, {5, 6, 5, 6},
+            {10, 20, 15, 15}, {15, 15, 10, 20},
+        }));
+        Check.holds(WHOLE, "ranges at the edges", Promise7LessTest::edgeRanges);
+        Check.holds(WHOLE, "ranges that touch", Promise7LessTest::rangesThatTouch);
+        Check.holds("(chosen apart), 0 if for none", "one register", Promise7LessTest::oneRegister);
+        Check.holds("2 otherwise; -1.", "register too small", () -> refuses(Check.TOO_SMALL));
+        Check.holds("2 otherwise; -1.", "register too large", () -> refuses(Check.TOO_LARGE));
+        Check.holds("Nothing is promised beyond the answers and state changes described above", "less changes nothing",
+                Promise7LessTest::askingChangesNothing);
         Check.end();
     }
 
-    /** Each row: a, b, and the answer due. */
-    private static void knownAnswers() {
-        int[][] rows = {
-            {10, 20, 100, 110, 1}, {100, 110, 10, 20, 0}, {10, 20, 21, 30, 1}, {10, 20, 20, 30, 2},
-            {20, 30, 10, 20, 0}, {20, 30, 10, 21, 2}, {10, 20, 15, 15, 2}, {15, 15, 10, 20, 2},
-            {5, 5, 5, 5, 0}, {5, 5, 6, 6, 1}, {6, 6, 5, 5, 0}, {0, 0, 0, 127, 2}, {127, 127, 0, 127, 0},
-            {0, 127, 127, 127, 2}, {0, 127, 0, 0, 0}, {0, 126, 127, 127, 1}, {0, 0, 1, 127, 1},
-        };
+    private static void dueRows(int want, int[][] rows) {
         for (int[] row : rows) {
-            compare(row[0], row[1], row[2], row[3], row[4]);
+            compare(row[0], row[1], row[2], row[3], want);
         }
     }
 
@@ -48,8 +57,8 @@ public final class Promise7LessTest {
         Check.due("less(2, 2) of (9, 10)", t.less(2, 2), 2);
     }
 
-    private static void wrongRegistersAreRefused() {
-        for (int wrong : Check.NO_REGISTERS) {
+    private static void refuses(int[] wrongRegisters) {
+        for (int wrong : wrongRegisters) {
             TightRange t = Check.sixRanges();
             Check.due("less(" + wrong + ", 0)", t.less(wrong, 0), -1);
             Check.due("less(0, " + wrong + ")", t.less(0, wrong), -1);

@@ -1,20 +1,27 @@
 public final class Promise8ApartTest {
+    private static final String PAIRS = "How many pairs (x, y), x held by register a and y by register b, have x & y = 0";
+
     public static void main(String[] args) {
-        knownAnswers();
-        edgeRanges();
-        oneRegister();
-        wrongRegistersAreRefused();
-        askingChangesNothing();
+        Check.holds(PAIRS, "no pair", () -> dueRows(new int[][] {
+            {127, 127, 1, 127, 0}, {1, 127, 127, 127, 0}, {1, 1, 1, 1, 0}, {64, 127, 64, 127, 0}, {1, 1, 3, 3, 0}, {127, 127, 127, 127, 0},
+        }));
+        Check.holds(PAIRS, "every pair", () -> dueRows(new int[][] {
+            {0, 0, 0, 0, 1}, {0, 0, 0, 127, 128}, {0, 127, 0, 0, 128}, {1, 1, 2, 2, 1}, {0, 63, 64, 64, 64}, {0, 0, 127, 127, 1},
+        }));
+        Check.holds(PAIRS, "some pairs, the most of all among them", () -> dueRows(new int[][] {
+            {0, 127, 0, 127, 2187}, {5, 5, 0, 127, 32}, {127, 127, 0, 127, 1}, {1, 3, 1, 3, 2}, {10, 20, 100, 110, 33}, {21, 42, 43, 84, 140},
+        }));
+        Check.holds(PAIRS, "ranges at the edges", Promise8ApartTest::edgeRanges);
+        Check.holds(PAIRS, "one register", Promise8ApartTest::oneRegister);
+        Check.holds("have x & y = 0; -1.", "register too small", () -> refuses(Check.TOO_SMALL));
+        Check.holds("have x & y = 0; -1.", "register too large", () -> refuses(Check.TOO_LARGE));
+        Check.holds("Nothing is promised beyond the answers and state changes described above", "apart changes nothing",
+                Promise8ApartTest::askingChangesNothing);
         Check.end();
     }
 
     /** Each row: a, b, and the count due. */
-    private static void knownAnswers() {
-        int[][] rows = {
-            {0, 127, 0, 127, 2187}, {0, 0, 0, 0, 1}, {0, 0, 0, 127, 128}, {0, 127, 0, 0, 128},
-            {5, 5, 0, 127, 32}, {127, 127, 0, 127, 1}, {127, 127, 1, 127, 0}, {1, 1, 2, 2, 1},
-            {1, 1, 3, 3, 0}, {1, 3, 1, 3, 2}, {0, 63, 64, 64, 64}, {10, 20, 100, 110, 33}, {21, 42, 43, 84, 140},
-        };
+    private static void dueRows(int[][] rows) {
         for (int[] row : rows) {
             compare(row[0], row[1], row[2], row[3], row[4]);
         }
@@ -38,14 +45,16 @@ public final class Promise8ApartTest {
     private static void oneRegister() {
         TightRange t = new TightRange();
         Check.due("apart(3, 3) of (0, 127)", t.apart(3, 3), 2187);
+        t.set(3, 0, 1);
+        Check.due("apart(3, 3) of (0, 1)", t.apart(3, 3), 3);
         t.set(3, 60, 70);
         Check.due("apart(3, 3) of (60, 70)", t.apart(3, 3), 18);
         t.set(3, 120, 127);
         Check.due("apart(3, 3) of (120, 127)", t.apart(3, 3), 0);
     }
 
-    private static void wrongRegistersAreRefused() {
-        for (int wrong : Check.NO_REGISTERS) {
+    private static void refuses(int[] wrongRegisters) {
+        for (int wrong : wrongRegisters) {
             TightRange t = Check.sixRanges();
             Check.due("apart(" + wrong + ", 0)", t.apart(wrong, 0), -1);
             Check.due("apart(0, " + wrong + ")", t.apart(0, wrong), -1);
