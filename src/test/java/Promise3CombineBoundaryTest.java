@@ -46,19 +46,19 @@ public final class Promise3CombineBoundaryTest {
             {0, 0, 1, 1, 127, 127}, {0, 0, 127, 127, 1, 1}, {126, 126, 127, 127, 127, 127}, {0, 3, 4, 7, 121, 127},
         }));
         Check.holds("1 (x - y) modulo 128 (from 0 up)", "some below 0", () -> dueRows(1, new int[][] {
-            {5, 6, 6, 6, 0, 127}, {0, 0, 0, 1, 0, 127}, {0, 127, 0, 127, 0, 127},
+            {5, 6, 6, 6, 0, 127}, {3, 9, 6, 6, 0, 127}, {6, 6, 3, 9, 0, 127}, {0, 0, 0, 1, 0, 127}, {0, 127, 0, 127, 0, 127},
         }));
-        Check.holds("2 x & y", "nothing, everything, and a least between the ends", () -> dueRows(2, new int[][] {
+        Check.holds("2 x & y", "nothing, everything, the least or the greatest not from the ends", () -> dueRows(2, new int[][] {
             {0, 0, 0, 127, 0, 0}, {127, 127, 127, 127, 127, 127}, {127, 127, 3, 9, 3, 9}, {63, 63, 64, 64, 0, 0}, {63, 64, 63, 64, 0, 64},
-            {64, 127, 64, 127, 64, 127},
+            {64, 127, 64, 127, 64, 127}, {3, 5, 3, 3, 0, 3}, {3, 3, 3, 5, 0, 3}, {6, 8, 7, 7, 0, 7}, {7, 7, 6, 8, 0, 7},
         }));
-        Check.holds("3 x | y", "nothing, everything, and a greatest between the ends", () -> dueRows(3, new int[][] {
+        Check.holds("3 x | y", "nothing, everything, the least or the greatest not from the ends", () -> dueRows(3, new int[][] {
             {0, 0, 0, 0, 0, 0}, {127, 127, 0, 127, 127, 127}, {0, 0, 3, 9, 3, 9}, {63, 63, 64, 64, 127, 127}, {63, 64, 63, 64, 63, 127},
-            {0, 63, 0, 63, 0, 63},
+            {0, 63, 0, 63, 0, 63}, {3, 5, 4, 4, 4, 7}, {4, 4, 3, 5, 4, 7}, {2, 4, 4, 4, 4, 7}, {4, 4, 2, 4, 4, 7},
         }));
-        Check.holds("4 x ^ y", "nothing, everything, and both between the ends", () -> dueRows(4, new int[][] {
+        Check.holds("4 x ^ y", "nothing, everything, the least or the greatest not from the ends", () -> dueRows(4, new int[][] {
             {0, 0, 0, 0, 0, 0}, {127, 127, 127, 127, 0, 0}, {0, 0, 127, 127, 127, 127}, {63, 64, 63, 64, 0, 127}, {127, 127, 3, 9, 118, 124},
-            {64, 127, 64, 127, 0, 63},
+            {64, 127, 64, 127, 0, 63}, {2, 4, 3, 3, 0, 7}, {3, 3, 2, 4, 0, 7}, {2, 4, 4, 4, 0, 7}, {4, 4, 2, 4, 0, 7},
         }));
         Check.holds("5 x * y / 128, rounded down", "about 128, none and the most", () -> dueRows(5, new int[][] {
             {127, 127, 1, 1, 0, 0}, {64, 64, 2, 2, 1, 1}, {43, 43, 3, 3, 1, 1}, {85, 85, 3, 3, 1, 1}, {64, 64, 4, 4, 2, 2},
@@ -83,7 +83,7 @@ public final class Promise3CombineBoundaryTest {
         }));
         Check.holds("8 the greater less the lesser", "alike, either one, and both", () -> dueRows(8, new int[][] {
             {9, 9, 9, 9, 0, 0}, {8, 8, 9, 9, 1, 1}, {9, 9, 8, 8, 1, 1}, {0, 0, 127, 127, 127, 127}, {127, 127, 0, 0, 127, 127},
-            {10, 20, 20, 21, 0, 11}, {10, 20, 21, 21, 1, 11}, {21, 21, 10, 20, 1, 11}, {0, 127, 0, 127, 0, 127},
+            {10, 20, 20, 21, 0, 11}, {10, 20, 15, 15, 0, 5}, {10, 20, 21, 21, 1, 11}, {21, 21, 10, 20, 1, 11}, {0, 127, 0, 127, 0, 127},
         }));
         Check.holds("9 both x and y are results", "alike, one inside the other, with a gap", () -> dueRows(9, new int[][] {
             {9, 9, 9, 9, 9, 9}, {0, 127, 5, 5, 0, 127}, {5, 5, 0, 127, 0, 127}, {0, 0, 127, 127, 0, 127}, {127, 127, 0, 0, 0, 127},

@@ -18,14 +18,14 @@ public final class Promise4ApplyBoundaryTest {
         Check.holds("0 127 - x", "the least, the greatest, the whole", () -> dueRows(0, new int[][] {
             {0, 0, 127, 127}, {127, 127, 0, 0}, {0, 127, 0, 127}, {63, 64, 63, 64}, {0, 1, 126, 127},
         }));
-        Check.holds("1 the number of ones among its seven bits", "no one, the outer bits, seven ones", () -> dueRows(1, new int[][] {
+        Check.holds("1 the number of ones among its seven bits", "no one, the outer bits, seven ones, not from the ends", () -> dueRows(1, new int[][] {
             {0, 0, 0, 0}, {1, 1, 1, 1}, {64, 64, 1, 1}, {65, 65, 2, 2}, {127, 127, 7, 7}, {63, 64, 1, 6}, {0, 127, 0, 7},
-            {126, 127, 6, 7}, {1, 126, 1, 6},
+            {126, 127, 6, 7}, {1, 126, 1, 6}, {3, 5, 1, 2}, {6, 8, 1, 3},
         }));
-        Check.holds("2 x with its bits in reverse order (bit 0 becomes bit 6, and so on)", "each bit, none and all",
+        Check.holds("2 x with its bits in reverse order (bit 0 becomes bit 6, and so on)", "each bit, none and all, not from the ends",
                 () -> dueRows(2, new int[][] {
             {1, 1, 64, 64}, {2, 2, 32, 32}, {4, 4, 16, 16}, {8, 8, 8, 8}, {16, 16, 4, 4}, {32, 32, 2, 2}, {64, 64, 1, 1},
-            {0, 0, 0, 0}, {127, 127, 127, 127}, {0, 127, 0, 127}, {63, 64, 1, 126}, {126, 127, 63, 127},
+            {0, 0, 0, 0}, {127, 127, 127, 127}, {0, 127, 0, 127}, {63, 64, 1, 126}, {126, 127, 63, 127}, {3, 5, 16, 96}, {2, 4, 16, 96},
         }));
         Check.holds("3 the greatest r with r * r <= x", "each square and the number below it", Promise4ApplyBoundaryTest::squares);
         Check.holds("3 the greatest r with r * r <= x", "the least, the greatest, the whole", () -> dueRows(3, new int[][] {

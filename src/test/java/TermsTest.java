@@ -144,6 +144,9 @@ public final class TermsTest {
             Check.dueRange("apply after refused calls", disturbed, 1, plain.low(1), plain.high(1));
             Check.due("less after refused calls", disturbed.less(1, 2), plain.less(1, 2));
             Check.due("apart after refused calls", disturbed.apart(1, 2), plain.apart(1, 2));
+            for (int r = 0; r < Check.REGISTERS; r++) {
+                Check.dueRange("all these calls", disturbed, r, plain.low(r), plain.high(r));
+            }
         }
     }
 }
