@@ -1,3 +1,5 @@
+import java.util.stream.IntStream;
+
 public final class Promise4ApplyTest {
     private static final int KINDS = 5;
     private static final String TIGHTEST = "The register dst becomes the tightest range of the set of all results of x, where";
@@ -51,13 +53,20 @@ public final class Promise4ApplyTest {
     private static void everyPlacingOfRegisters() {
         for (int dst = 0; dst < Check.REGISTERS; dst++) {
             for (int a = 0; a < Check.REGISTERS; a++) {
-                TightRange t = Check.sixRanges();
-                String call = "apply(" + dst + ", 0, " + a + ")";
-                Check.due(call, t.apply(dst, 0, a), 0);
-                Check.dueRange(call, t, dst, 127 - 10 * a - 5, 127 - 10 * a);
-                Check.dueSixRangesBut(call, t, dst);
+                for (int kind = 0; kind < KINDS; kind++) {
+                    int[] results = resultsOf(kind, 10 * a, 10 * a + 5);
+                    TightRange t = Check.sixRanges();
+                    String call = "apply(" + dst + ", " + kind + ", " + a + ")";
+                    Check.due(call, t.apply(dst, kind, a), 0);
+                    Check.dueRange(call, t, dst, results[0], results[results.length - 1]);
+                    Check.dueSixRangesBut(call, t, dst);
+                }
             }
         }
+    }
+
+    private static int[] resultsOf(int kind, int low, int high) {
+        return IntStream.rangeClosed(low, high).map(x -> resultOf(kind, x)).sorted().toArray();
     }
 
     /** Where it can be, by the Java library instead of the class's own way. */

@@ -13,6 +13,7 @@ public final class Promise8ApartTest {
         }));
         Check.holds(PAIRS, "ranges at the edges", Promise8ApartTest::edgeRanges);
         Check.holds(PAIRS, "one register", Promise8ApartTest::oneRegister);
+        Check.holds(PAIRS, "every two registers", Promise8ApartTest::everyTwoRegisters);
         Check.holds("have x & y = 0; -1.", "register too small", () -> refuses(Check.TOO_SMALL));
         Check.holds("have x & y = 0; -1.", "register too large", () -> refuses(Check.TOO_LARGE));
         Check.holds("Nothing is promised beyond the answers and state changes described above", "apart changes nothing",
@@ -30,14 +31,7 @@ public final class Promise8ApartTest {
     private static void edgeRanges() {
         for (int[] a : Check.RANGES) {
             for (int[] b : Check.RANGES) {
-                int want = 0;
-                for (int x = a[0]; x <= a[1]; x++) {
-                    for (int y = b[0]; y <= b[1]; y++) {
-                        // No bit is in both just if nothing is carried in the sum.
-                        want += x + y == (x | y) ? 1 : 0;
-                    }
-                }
-                compare(a[0], a[1], b[0], b[1], want);
+                compare(a[0], a[1], b[0], b[1], pairsApart(a[0], a[1], b[0], b[1]));
             }
         }
     }
@@ -63,6 +57,16 @@ public final class Promise8ApartTest {
         }
     }
 
+    private static void everyTwoRegisters() {
+        TightRange t = Check.sixRanges();
+        for (int a = 0; a < Check.REGISTERS; a++) {
+            for (int b = 0; b < Check.REGISTERS; b++) {
+                int want = pairsApart(10 * a, 10 * a + 5, 10 * b, 10 * b + 5);
+                Check.due("apart(" + a + ", " + b + ")", t.apart(a, b), want);
+            }
+        }
+    }
+
     private static void askingChangesNothing() {
         TightRange t = Check.sixRanges();
         for (int a = 0; a < Check.REGISTERS; a++) {
@@ -78,5 +82,16 @@ public final class Promise8ApartTest {
         t.set(5, aLow, aHigh);
         t.set(0, bLow, bHigh);
         Check.due("apart of (" + aLow + ", " + aHigh + ") and (" + bLow + ", " + bHigh + ")", t.apart(5, 0), want);
+    }
+
+    private static int pairsApart(int aLow, int aHigh, int bLow, int bHigh) {
+        int pairs = 0;
+        for (int x = aLow; x <= aHigh; x++) {
+            for (int y = bLow; y <= bHigh; y++) {
+                // No bit is in both just if nothing is carried in the sum.
+                pairs += x + y == (x | y) ? 1 : 0;
+            }
+        }
+        return pairs;
     }
 }
